@@ -56,7 +56,7 @@ public final class MarkupJudge {
         doctype = new Doctype(store, reader, entities, declared);
         tree = new Tree(characters, most);
         content = new Content(store, reader, entities, declared, doctype, tree);
-        validator = new Validator(store, entities, declared, doctype, tree, new Model(store, reader));
+        validator = new Validator(store, reader, entities, declared, doctype, tree, new Model(store, reader));
         meanings = new Meanings(store, tree);
         writer = new Writer(store, tree, meanings);
         lastPlace = NONE;
@@ -268,7 +268,11 @@ public final class MarkupJudge {
             hash = new int[most];
             next = new int[most];
             mark = new int[most];
-            head = new int[Integer.highestOneBit(most) * 2];
+            int slots = 64;
+            for (int i = 0; i < 20 && slots < most; i++) {
+                slots *= 2;
+            }
+            head = new int[slots];
             Arrays.fill(head, NONE);
             keep("");
             keep("lt");
@@ -2080,6 +2084,7 @@ public final class MarkupJudge {
         static final int CONSTRAINTS = 23;
 
         private final Store store;
+        private final Reader reader;
         private final Entities entities;
         private final Declared declared;
         private final Doctype doctype;
@@ -2095,8 +2100,9 @@ public final class MarkupJudge {
         private final int[] applied;
         private int identityMark;
 
-        Validator(Store store, Entities entities, Declared declared, Doctype doctype, Tree tree, Model model) {
+        Validator(Store store, Reader reader, Entities entities, Declared declared, Doctype doctype, Tree tree, Model model) {
             this.store = store;
+            this.reader = reader;
             this.entities = entities;
             this.declared = declared;
             this.doctype = doctype;
@@ -2176,7 +2182,6 @@ public final class MarkupJudge {
 
         /** Marks the names of the group, with a mark that is answered. */
         private int markMixed(int source) {
-            Reader reader = model.reader;
             int mark = store.newMark();
             reader.pos = source;
             reader.stop = store.top;
