@@ -175,6 +175,13 @@ public final class BytesTest {
             }
         }
         Check.faulty(Check.bytes(239, 187), "half a mark", 1, 0);
+        Check.faulty(Check.bytes(255), "half a mark", 1, 0);
+        Check.faulty(Check.bytes(254), "half a mark", 1, 0);
+        Check.faulty(Check.bytes(255, 255), "no mark", 1, 0);
+        Check.faulty(Check.bytes(254, 254), "no mark", 1, 0);
+        Check.faulty(Check.bytes(255, 60, 97, 47), "no mark", 1, 0);
+        Check.faulty(Check.bytes(60, 254, 60, 97), "no mark", 1, 1);
+        Check.faulty(Check.bytes(60, 255, 60, 97), "no mark", 1, 1);
         Check.faulty(Check.bytes('x', '<', '<', 0), "before any other fault", 1, 3);
         MarkupJudge small = new MarkupJudge(64, 16);
         byte[] row = Check.utf8("x".repeat(70) + "\u0001");

@@ -183,6 +183,10 @@ public final class LimitsTest {
         Check.good(d + "(" + names(255, ",") + ")>]><a/>");
         Check.faulty(d + "(x*" + ",x*".repeat(255) + ")>]><a/>", 4, 13);
         Check.good(d + "(#PCDATA|" + names(300, "|") + ")*>]><a/>");
+        Check.good(d + "(" + names(200, "|") + ")><!ELEMENT b (" + names(200, ",") + ")><!ELEMENT c (#PCDATA)>]><a/>");
+        MarkupJudge again = new MarkupJudge(0, 0);
+        Check.faulty(again, Check.utf8(d + "(" + names(256, "|") + ")>]><a/>"), "too many names", 4, 13);
+        Check.due("the next one", Check.judge(again, d + "(b)>]><a/>"), 1);
         StringBuilder all = new StringBuilder("<a>");
         StringBuilder declared = new StringBuilder(d + "(" + names(255, "?,") + ")>");
         for (int i = 1; i <= 255; i++) {
@@ -206,6 +210,9 @@ public final class LimitsTest {
         Check.faulty(d + "(".repeat(20000) + "b" + ")".repeat(20000) + ">]><a/>", 4, 13);
         Check.faulty(d + "(".repeat(20000) + "b" + ")*".repeat(20001) + ">]><a/>", 5, 13);
         Check.faulty(d + "(".repeat(65000), 5, 13);
+        MarkupJudge again = new MarkupJudge(0, 0);
+        Check.faulty(again, Check.utf8(d + "(".repeat(61) + "b" + ")".repeat(61) + ">]><a/>"), "too deep", 4, 13);
+        Check.due("the next one", Check.judge(again, d + "(b)>]><a/>"), 1);
         Check.good(d + "(c" + ",(c".repeat(59) + ")".repeat(60) + ">]><a/>");
         String deep = d + "(".repeat(60) + "b" + ")*".repeat(60) + "><!ELEMENT b EMPTY>]>";
         Check.due("stars on stars", Check.violations(Check.formed(deep + "<a><b/><b/></a>")), "");

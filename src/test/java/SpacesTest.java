@@ -85,6 +85,10 @@ public final class SpacesTest {
         due("<a xmlns='" + XML + " '/>", "");
         due("<a xmlns:p='" + XMLNS + "' xmlns='" + XMLNS + "'/>", "3:2");
         due("<xmlns:a xmlns:xmlns='u:1'/>", "3:1 4:1");
+        // what xml and xmlns mean can't be changed
+        due("<a xmlns:xml='' xml:b=''><xml:c/></a>", "3:1");
+        due("<a xmlns:xml='u:1' xmlns:p='u:1' xml:b='' p:b=''/>", "3:1");
+        due("<a xmlns:xmlns='u:1' xmlns:p='u:1' p:q='' xmlns:q='u:2'/>", "3:1");
         due("<a xmlns:xmlns='" + XML + "'/>", "3:1");
     }
 
