@@ -761,13 +761,9 @@ public final class MarkupJudge {
             need("PUBLIC");
             needSpace();
             readPublicLiteral();
-            int from = pos;
-            boolean spaced = skipSpace();
-            if (spaced && atQuote()) {
+            if (skipSpace() && atQuote()) {
                 readLiteral();
-            } else if (publicAlone) {
-                pos = from;
-            } else {
+            } else if (!publicAlone) {
                 fail(BADLY_WRITTEN);
             }
         }
@@ -863,7 +859,6 @@ public final class MarkupJudge {
             declarations = 0;
             depth = 0;
             missing = 0;
-            counted = 0;
             standalone = false;
             parameterSeen = false;
         }
@@ -1192,7 +1187,6 @@ public final class MarkupJudge {
         void forget() {
             seen = false;
             open = false;
-            root = NONE;
         }
 
         void readBegin() {
@@ -1838,7 +1832,7 @@ public final class MarkupJudge {
             if (store.find(from, size) != tree.tag[tree.open]) {
                 reader.fail(OTHER_END);
             }
-            if (entities.depth > 0 && tree.open == entities.elementBefore()) {
+            if (tree.open == entities.elementBefore()) {
                 reader.fail(TORN);
             }
             tree.endElement();

@@ -183,9 +183,22 @@ public final class BytesTest {
         Check.faulty(Check.bytes(60, 254, 60, 97), "no mark", 1, 1);
         Check.faulty(Check.bytes(60, 255, 60, 97), "no mark", 1, 1);
         Check.faulty(Check.bytes('x', '<', '<', 0), "before any other fault", 1, 3);
+        cut(Check.utf8("<a>\u00e9\u00e9</a>"), 4, 3);
+        cut(Check.utf8("<a>\u20ac</a>"), 5, 3);
+        cut(Check.utf8("<a>\ud83d\ude00</a>"), 6, 3);
         MarkupJudge small = new MarkupJudge(64, 16);
         byte[] row = Check.utf8("x".repeat(70) + "\u0001");
         Check.faulty(small, row, "before fault 4", 1, 70);
+    }
+
+    /** Cut within a character: what came in behind the cut does not make it whole. */
+    private static void cut(byte[] row, int n, int place) {
+        MarkupJudge x = new MarkupJudge(0, 0);
+        Check.feed(x, row);
+        x.end(n);
+        Check.due("cut at " + n, x.judge(), 2);
+        Check.due("cut at " + n, x.fault(), 1);
+        Check.due("cut at " + n, x.place(), place);
     }
 
     private static byte[] wide(String text, boolean lowFirst) {
@@ -231,6 +244,11 @@ public final class BytesTest {
             Check.faulty(bytes, "broken 16 bits " + row[0], 1, 4);
         }
         Check.faulty(Check.bytes(254, 255, 0xD8, 0, 0), "a first half and half a number", 1, 2);
+        Check.faulty(wide("<a>\ud83d\ude00", false), "two halves at the end", 6, 4);
+        cut(wide("<a>\ud83d\ude00</a>", false), 11, 8);
+        cut(wide("<a>\ud83d\ude00</a>", true), 11, 8);
+        cut(wide("<a>\ud83d\ude00</a>", true), 10, 8);
+        cut(wide("<a>\ud83d\ude00</a>", true), 9, 8);
     }
 
     private static void lineEnds() {

@@ -175,7 +175,7 @@ public final class FaultsTest {
         for (String s : bad) {
             Check.faulty(s + "<a/>", 5, 0);
         }
-        String[] outside = {"SYSTEM 'x'", "SYSTEM \"'<&%\"", "PUBLIC 'x' 'y'", "PUBLIC \"'\"\n\"\"",
+        String[] outside = {"SYSTEM 'x'", "SYSTEM 'x'\n ", "PUBLIC '' ''\t", "SYSTEM \"'<&%\"", "PUBLIC 'x' 'y'", "PUBLIC \"'\"\n\"\"",
             "PUBLIC \"-'()+,./:=?;!*#@$_% \nazAZ09\" \"\u20ac\""};
         for (String s : outside) {
             Check.faulty("<!DOCTYPE a " + s + "><a/>", 3, 0);
@@ -388,7 +388,7 @@ public final class FaultsTest {
 
     private static void sectionsAndRuns() {
         String[] good = {"<![CDATA[]]>", "<![CDATA[]]]>", "<![CDATA[]]]]>", "<![CDATA[<a>&x;]]>", "<![CDATA[]] >]]>", "<![CDATA[<![CDATA[]]>", "]]", "]>",
-            "] ]>", "]]&gt;", "\"'%;=", ">", "]]<![CDATA[]]>>"};
+            "] ]>", "]x>", "]]x>", "]]&gt;", "\"'%;=", ">", "]]<![CDATA[]]>>"};
         for (String s : good) {
             Check.good("<a>" + s + "</a>");
         }

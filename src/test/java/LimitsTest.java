@@ -196,6 +196,8 @@ public final class LimitsTest {
         Check.due("a long row", Check.violations(Check.formed(declared + "]>" + all + "</a>")), "");
         Check.due("one too many", Check.violations(Check.formed(declared + "]>" + all + "<n255/></a>")), "6:1");
         Check.due("out of order", Check.violations(Check.formed(declared + "]><a><n9/><n8/><n255/></a>")), "6:1");
+        Check.due("out of order", Check.violations(Check.formed(declared + "]><a><n40/><n32/><n255/></a>")), "6:1");
+        Check.due("out of order", Check.violations(Check.formed(declared + "]><a><n200/><n64/><n255/></a>")), "6:1");
         Check.due("the last must be", Check.violations(Check.formed(declared + "]><a><n9/></a>")), "6:1");
         Check.due("all but the last may be missing", Check.violations(Check.formed(declared + "]><a><n255/></a>")), "");
         MarkupJudge x = Check.formed(d + "(" + names(254, "|") + "|n31)*>]><a/>");

@@ -7,7 +7,7 @@ import java.util.Arrays;
 public final class RandomTest {
     private static final int NONE = MarkupJudge.NONE;
     private static final String[] NAMES = {"a", "b", "c", "p:a", "q:b", "xml:c", "a:", "\u00e9"};
-    private static final String[] ENTITIES = {"e", "f", "g", "lt", "amp"};
+    private static final String[] ENTITIES = {"e", "f", "g", "lt", "amp", "e", "f", "g", "lt", "x"};
     private static final String[] VALUES = {"", "a", " a  b ", "1", "u:1", "u:2", "&e;", "&#9;&#10;x", "&f;&lt;", "x&gt;\ty"};
     private static final String[] TYPES = {"CDATA", "ID", "IDREF", "IDREFS", "ENTITY", "ENTITIES", "NMTOKEN", "NMTOKENS", "(a|b|1)", "NOTATION (n|m)"};
     private static final String[] MODELS = {"EMPTY", "ANY", "(#PCDATA)", "(#PCDATA|a|b)*", "(a)", "(a|b)*", "(a?,b*,c)", "((a,b)|(a,c))+", "(a*)*", "(b+|c?)"};
@@ -78,7 +78,7 @@ public final class RandomTest {
             case 4:
                 return "<!ENTITY % p '<!ELEMENT c ANY>'>%p;";
             default:
-                return "<!NOTATION n SYSTEM ''>";
+                return next(4) > 0 ? "<!NOTATION n SYSTEM ''>" : "<?t:u?><!ENTITY n:m ''>";
         }
     }
 
