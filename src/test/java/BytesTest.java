@@ -60,52 +60,34 @@ public final class BytesTest {
         Check.due("end", x.end(40), 40);
     }
 
-    private static boolean feedThrows(MarkupJudge x) {
-        try {
-            x.feed(0x61616161, 0x61616161, 0x61616161, 0x61616161, 0x61616161);
-            return false;
-        } catch (IllegalStateException e) {
-            return true;
-        }
-    }
-
     private static void feedHasALimit() {
         MarkupJudge x = new MarkupJudge(0, 0);
         for (int i = 0; i < 3276; i++) {
-            Check.due("feed " + i, feedThrows(x) ? 1 : 0, 0);
+            Check.due("feed " + i, Check.feedThrows(x), false);
         }
-        Check.due("65520 and 20 throw", feedThrows(x) ? 1 : 0, 1);
+        Check.due("65520 and 20 throw", Check.feedThrows(x), true);
         Check.due("nothing changed", x.end(65517), 65520);
-        Check.due("65517 and 20 throw", feedThrows(x) ? 1 : 0, 1);
+        Check.due("65517 and 20 throw", Check.feedThrows(x), true);
         Check.due("nothing changed", x.end(65516), 65517);
-        Check.due("65516 and 20", feedThrows(x) ? 1 : 0, 0);
+        Check.due("65516 and 20", Check.feedThrows(x), false);
         Check.due("full", x.end(65536), 65536);
-        Check.due("full and 20 throw", feedThrows(x) ? 1 : 0, 1);
+        Check.due("full and 20 throw", Check.feedThrows(x), true);
         Check.due("the last byte", x.change(65535, 0), 'a');
         Check.due("behind it", x.change(65536, 0), NONE);
     }
 
-    private static boolean endThrows(MarkupJudge x, int n) {
-        try {
-            x.end(n);
-            return false;
-        } catch (IllegalArgumentException e) {
-            return true;
-        }
-    }
-
     private static void endCuts() {
         MarkupJudge x = new MarkupJudge(0, 0);
-        Check.due("end(1) of none throws", endThrows(x, 1) ? 1 : 0, 1);
-        Check.due("end(-1) throws", endThrows(x, -1) ? 1 : 0, 1);
+        Check.due("end(1) of none throws", Check.endThrows(x, 1), true);
+        Check.due("end(-1) throws", Check.endThrows(x, -1), true);
         x.feed(1, 2, 3, 4, 5);
-        Check.due("end(21) throws", endThrows(x, 21) ? 1 : 0, 1);
-        Check.due("end(-1) throws", endThrows(x, -1) ? 1 : 0, 1);
-        Check.due("end(MIN) throws", endThrows(x, Integer.MIN_VALUE) ? 1 : 0, 1);
-        Check.due("end(MAX) throws", endThrows(x, Integer.MAX_VALUE) ? 1 : 0, 1);
+        Check.due("end(21) throws", Check.endThrows(x, 21), true);
+        Check.due("end(-1) throws", Check.endThrows(x, -1), true);
+        Check.due("end(MIN) throws", Check.endThrows(x, Integer.MIN_VALUE), true);
+        Check.due("end(MAX) throws", Check.endThrows(x, Integer.MAX_VALUE), true);
         Check.due("end(20)", x.end(20), 20);
         Check.due("end(3)", x.end(3), 20);
-        Check.due("end(4) throws", endThrows(x, 4) ? 1 : 0, 1);
+        Check.due("end(4) throws", Check.endThrows(x, 4), true);
         Check.due("end(0)", x.end(0), 3);
         Check.due("end(0)", x.end(0), 0);
         Check.feed(x, Check.utf8("<a/>"));

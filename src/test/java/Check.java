@@ -4,15 +4,23 @@ import java.nio.charset.StandardCharsets;
 final class Check {
     private static int asked = 0;
     private static int wrong = 0;
+    private static String said = "";
+    private static MarkupJudge common;
+    private static int calls = 0;
 
     private Check() {
+    }
+
+    /** The words of the document that what is asked from here on rests on; told with each answer that is not as due. */
+    static void says(String... words) {
+        said = " (the document: " + String.join(" .. ", words) + ")";
     }
 
     static void due(String what, long got, long want) {
         asked++;
         if (got != want) {
             wrong++;
-            System.out.println(what + ": answered " + got + ", due is " + want);
+            System.out.println(what + ": answered " + got + ", due is " + want + said);
         }
     }
 
@@ -20,8 +28,12 @@ final class Check {
         asked++;
         if (!want.equals(got)) {
             wrong++;
-            System.out.println(what + ": answered [" + got + "], due is [" + want + "]");
+            System.out.println(what + ": answered [" + got + "], due is [" + want + "]" + said);
         }
+    }
+
+    static void due(String what, boolean got, boolean want) {
+        due(what, got ? 1 : 0, want ? 1 : 0);
     }
 
     static void finish() {
@@ -39,6 +51,35 @@ final class Check {
         byte[] row = new byte[numbers.length];
         for (int i = 0; i < row.length; i++) {
             row[i] = (byte) numbers[i];
+        }
+        return row;
+    }
+
+    static String text(int c) {
+        return new String(Character.toChars(c));
+    }
+
+    /** These rows, one behind the other. */
+    static byte[] joined(byte[]... rows) {
+        int n = 0;
+        for (byte[] row : rows) {
+            n += row.length;
+        }
+        byte[] all = new byte[n];
+        n = 0;
+        for (byte[] row : rows) {
+            System.arraycopy(row, 0, all, n, row.length);
+            n += row.length;
+        }
+        return all;
+    }
+
+    /** Numbers of 16 bits, without a mark. */
+    static byte[] wide(boolean lowFirst, int... numbers) {
+        byte[] row = new byte[2 * numbers.length];
+        for (int i = 0; i < numbers.length; i++) {
+            row[2 * i + (lowFirst ? 1 : 0)] = (byte) (numbers[i] >> 8);
+            row[2 * i + (lowFirst ? 0 : 1)] = (byte) numbers[i];
         }
         return row;
     }
@@ -66,7 +107,18 @@ final class Check {
         return judge(x, utf8(text));
     }
 
-    /** A judge with all room, that has judged the text; it must be well formed. */
+    /** A judge with all room, used before, if it was for fewer calls than the document allows; nobody keeps it. */
+    private static MarkupJudge ready(int bytes) {
+        int more = bytes / 20 + 8;
+        if (common == null || calls + more > 512) {
+            common = new MarkupJudge(0, 0);
+            calls = 0;
+        }
+        calls += more;
+        return common;
+    }
+
+    /** A new judge with all room, that has judged the text; it must be well formed. */
     static MarkupJudge formed(String text) {
         MarkupJudge x = new MarkupJudge(0, 0);
         if (judge(x, text) == 2) {
@@ -76,7 +128,7 @@ final class Check {
     }
 
     static void faulty(byte[] row, String told, int fault, int place) {
-        faulty(new MarkupJudge(0, 0), row, told, fault, place);
+        faulty(ready(row.length), row, told, fault, place);
     }
 
     static void faulty(String text, int fault, int place) {
@@ -90,7 +142,9 @@ final class Check {
     }
 
     static void good(String text) {
-        MarkupJudge x = formed(text);
+        byte[] row = utf8(text);
+        MarkupJudge x = ready(row.length);
+        due(text + " is well formed", judge(x, row) < 2, true);
         due(text + " fault()", x.fault(), 0);
         due(text + " place()", x.place(), MarkupJudge.NONE);
     }
@@ -128,6 +182,47 @@ final class Check {
         StringBuilder told = new StringBuilder();
         for (int i = 0; x.attribute(e, a, what, i) != MarkupJudge.NONE; i++) {
             told.appendCodePoint(x.attribute(e, a, what, i));
+        }
+        return told.toString();
+    }
+
+    static boolean feedThrows(MarkupJudge x) {
+        try {
+            x.feed(0x61616161, 0x61616161, 0x61616161, 0x61616161, 0x61616161);
+            return false;
+        } catch (IllegalStateException e) {
+            return true;
+        }
+    }
+
+    static boolean endThrows(MarkupJudge x, int n) {
+        try {
+            x.end(n);
+            return false;
+        } catch (IllegalArgumentException e) {
+            return true;
+        }
+    }
+
+    /** All that can be asked and changes nothing: of the last judge(), the document, the product and what came in. */
+    static String state(MarkupJudge x) {
+        StringBuilder told = new StringBuilder();
+        told.append(x.fault()).append(' ').append(x.place()).append(" v ").append(violations(x)).append(" s ").append(spaces(x));
+        told.append(" c ").append(x.characters()).append(' ').append(x.counted()).append(' ').append(x.elements());
+        for (int e = 0; e < x.elements(); e++) {
+            told.append(" <").append(name(x, e)).append(' ').append(x.parent(e));
+            for (int a = 0; a < x.attributes(e); a++) {
+                told.append(' ').append(part(x, e, a, 0)).append('=').append(part(x, e, a, 1));
+            }
+        }
+        told.append(" product ").append(new String(product(x), StandardCharsets.ISO_8859_1)).append(" in ");
+        int i = 0;
+        int b = x.change(i, 0);
+        while (b != MarkupJudge.NONE) {
+            x.change(i, b);
+            told.append((char) b);
+            i++;
+            b = x.change(i, 0);
         }
         return told.toString();
     }
