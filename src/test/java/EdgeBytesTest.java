@@ -14,6 +14,7 @@ public final class EdgeBytesTest {
         charactersByReference();
         marks();
         almostMarks();
+        cutMarks();
         leadingBytes();
         leastNumbers();
         bytesBehind();
@@ -178,6 +179,31 @@ public final class EdgeBytesTest {
         faulty("a mark behind a space", Check.joined(Check.utf8(" "), mark, Check.utf8("<a/>")), 6, 1);
     }
 
+    /** What came in and was cut off again makes no mark whole. */
+    private static void cutMarks() {
+        Check.says("The bytes that came in are only the first n.");
+        int[][] rows = {{254, 255}, {255, 254}, {239, 187, 191}, {239, 187, 191, 60}};
+        for (int[] row : rows) {
+            for (int n = 1; n <= 3; n++) {
+                MarkupJudge x = new MarkupJudge(64, 16);
+                Check.feed(x, Check.joined(Check.bytes(row), Check.utf8("<a/>")));
+                x.end(n);
+                Check.due("cut to " + n, x.judge(), 2);
+                boolean whole = n >= (row[0] == 239 ? 3 : 2);
+                boolean half = row[0] != 239 && n == 3;
+                Check.due(n + " of a mark " + row[0], x.fault(), whole && !half ? 6 : 1);
+                Check.due(n + " of a mark " + row[0], x.place(), half ? 2 : 0);
+            }
+        }
+        // nor does what an earlier document began with
+        MarkupJudge x = new MarkupJudge(64, 16);
+        Check.judge(x, Check.wide(false, 65279, '<', 'a', '/', '>'));
+        Check.due("no bytes", x.judge(), 2);
+        Check.due("no bytes", x.fault(), 6);
+        Check.due("8 bits behind 16", Check.judge(x, "<a/>"), 1);
+        Check.due("16 bits behind 8", Check.judge(x, Check.wide(true, 65279, '<', 'a', '/', '>')), 1);
+    }
+
     private static void leadingBytes() {
         Check.says("8 BITS: a byte 0 .. 127 is itself; otherwise 110xxxxx, 1110xxxx or 11110xxx with 1, 2 or 3 bytes 10xxxxxx behind it");
         for (int lead = 0; lead < 256; lead++) {
@@ -196,6 +222,13 @@ public final class EdgeBytesTest {
             boolean character = c == 9 || c == 10 || c == 13 || c >= 32 && c <= 55295 || c >= 57344 && c <= 65533 || c >= 65536 && c <= 1114111;
             if (!fits || !character) {
                 faulty("leading byte " + lead, inElement(taken), 1, 3);
+                for (int more = 1; more < 6; more++) {
+                    byte[] behind = new byte[more];
+                    java.util.Arrays.fill(behind, (byte) 144);
+                    if (size == 0) {
+                        faulty("leading byte " + lead + " with " + more, inElement(Check.joined(taken, behind)), 1, 3);
+                    }
+                }
             } else if (lead != '<' && lead != '&') {
                 MarkupJudge x = new MarkupJudge(0, 0);
                 Check.due("leading byte " + lead, Check.judge(x, inElement(taken)), 1);
@@ -255,10 +288,12 @@ public final class EdgeBytesTest {
     private static void brokenPairs() {
         Check.says("any other one is itself");
         int[][] rows = {{55296}, {56319}, {56320}, {57343}, {55296, 56319}, {55296, 57344}, {56319, 55296, 56320}, {56320, 56320}, {56320, 55296},
-            {57343, 57343}, {55296, 32}, {55296, 55295}};
+            {57343, 57343}, {55296, 32}, {55296, 55295}, {55297, 56319}, {56318, 57344}};
         for (int low = 0; low < 2; low++) {
             for (int[] row : rows) {
                 faulty("broken " + row[0], wideElement(low == 1, row), 1, 8);
+                faulty("broken behind one that is itself", wideElement(low == 1, 55295, 56320), 1, 10);
+                faulty("broken behind one that is itself", wideElement(low == 1, 57344, 56320), 1, 10);
                 faulty("broken " + row[0] + " behind a pair", Check.joined(Check.wide(low == 1, 65279, 55296, 56320), Check.wide(low == 1, row)), 1, 6);
             }
         }

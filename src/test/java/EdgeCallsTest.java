@@ -17,6 +17,7 @@ public final class EdgeCallsTest {
         changeEdges();
         judgeUsesUp();
         judgeAnswers();
+        judgeBehindAnother();
         faultAndPlace();
         violationsEdges();
         spacesEdges();
@@ -232,6 +233,31 @@ public final class EdgeCallsTest {
         x.change(0, 9);
         x.end(0);
         Check.due("the document stays", Check.state(x), before);
+    }
+
+    /** Each document behind each other one is judged as by a new object. */
+    private static void judgeBehindAnother() {
+        Check.says("in both cases it is the document at hand then");
+        String d = "<!DOCTYPE a [";
+        String p = "<!ENTITY % p ''>%p;";
+        String[] texts = {"", "<a/>", "<a", "\u0001", "x\r", "\n<a/>", "<?xml version='1.0' standalone='yes'?>" + d + p + "]><a/>", d + p + "]><a>&x;</a>", d + "]><a>&x;</a>",
+            d + "<!ENTITY x 'y'>]><a b='&x;'>&x;</a>", d + "<!ENTITY % x ' '>%x;]><a/>", d + "<!ELEMENT a EMPTY>]><a/>", d + "<!ELEMENT a (b,c)><!ELEMENT a ANY>]><a><b/></a>",
+            d + "<!ELEMENT a (#PCDATA|b|b)*>]><a><b/>x</a>", d + "<!ATTLIST a b ID 'x' c NOTATION (n|n) #IMPLIED>]><a/>", d + "<!ATTLIST a b CDATA #REQUIRED>", d + "<!NOTATION n SYSTEM ''>]><a/>",
+            d + "<!NOTATION n SYSTEM ''><!NOTATION n SYSTEM ''>]><a b=' x '/>", "<a xmlns='u:1' xmlns:p='u:2'><p:b p:c=''/></a>", "<p:a p:c=''/>", "<xmlns:a xmlns:xml=''/>", "<?p:q?><a:/><?r?>",
+            d + "<!ENTITY e '<b>'>]><a>&e;</a>", d + "<!ENTITY e '&e;'>]><a>&e;</a>", d + "<!ENTITY % e ']'>%e;]><a/>", d, "<a><b><c>", "<a b='' b=''/>", "<a b='&x;'/>", "<a xmlns='x'/>"};
+        String[] alone = new String[texts.length];
+        for (int i = 0; i < texts.length; i++) {
+            MarkupJudge x = new MarkupJudge(512, 32);
+            alone[i] = Check.judge(x, texts[i]) + " " + Check.state(x) + " " + x.canonical();
+        }
+        for (int first = 0; first < texts.length; first++) {
+            for (int second = 0; second < texts.length; second++) {
+                MarkupJudge x = new MarkupJudge(512, 32);
+                Check.judge(x, texts[first]);
+                int answer = Check.judge(x, texts[second]);
+                Check.due(texts[second] + " behind " + texts[first], answer + " " + Check.state(x) + " " + x.canonical(), alone[second]);
+            }
+        }
     }
 
     private static void faultAndPlace() {

@@ -259,7 +259,7 @@ public final class EdgeItemsTest {
         Check.faulty("<?xml version='1.0' encoding=''?><a/>", 5, 0);
         Check.says("Fault 2: the encoding, in letters of either size, is not UTF-8 for 8 bits, UTF-16 for 16 bits.");
         String[] good = {"UTF-8", "utf-8", "Utf-8", "uTf-8", "utF-8", "UTf-8", "uTF-8", "UtF-8"};
-        String[] bad = {"UTF-16", "utf-16", "UTF-7", "UTF-9", "UTF-88", "UTF-", "UTF8", "UTF_8", "UTF.8", "TF-8", "xUTF-8", "UTF-8x", "U", "ISO-8859-1"};
+        String[] bad = {"UTF-16", "utf-16", "UTF-7", "UTF-9", "UTF-88", "UTF-", "UTF8", "UTF_8", "UTF.8", "TF-8", "xUTF-8", "UTF-8x", "VTF-8", "TTF-8", "USF-8", "UUF-8", "UTE-8", "UTG-8", "UTF.8", "UTF-7", "U", "ISO-8859-1"};
         byte[] mark = Check.bytes(239, 187, 191);
         for (String s : good) {
             encoded(mark, s, 0);
@@ -274,6 +274,9 @@ public final class EdgeItemsTest {
             wideEncoded(low == 1, "UTF-8", 2);
             wideEncoded(low == 1, "UTF-1", 2);
             wideEncoded(low == 1, "UTF-15", 2);
+            wideEncoded(low == 1, "UTF-17", 2);
+            wideEncoded(low == 1, "UTF-06", 2);
+            wideEncoded(low == 1, "VTF-16", 2);
             wideEncoded(low == 1, "UTF-160", 2);
             wideEncoded(low == 1, "UTF-16LE", 2);
             wideEncoded(low == 1, "UTF-16BE", 2);
@@ -343,7 +346,7 @@ public final class EdgeItemsTest {
             stands(" ", "<?" + s + " x?>", "<a/>", 5);
             stands("<a>", "<?" + s + "?>", "</a>", 5);
         }
-        String[] good = {"x", "xm", "ml", "xmll", "xxml", "xml_", "xml:", "xml1", "\u017fxml"};
+        String[] good = {"x", "xm", "ml", "xmll", "xxml", "xml_", "xml:", "xml1", "\u017fxml", "yml", "wml", "xnl", "xll", "xmk", "xmm", "lmx", "XMK"};
         for (String s : good) {
             stands(" ", "<?" + s + " x?>", "<a/>", 0);
             stands("<a>", "<?" + s + "?>", "</a>", 0);
@@ -477,6 +480,15 @@ public final class EdgeItemsTest {
         Check.due("nothing stands there", Check.part(x, 0, 0, 1) + Check.part(x, 0, 1, 1), "[][]");
         Check.due("no character", x.characters(), 0);
         Check.due("three references", x.violations(22), 3);
+        // words that mean something elsewhere are names like any other
+        String[] others = {"xml", "xmlns", "CDATA", "ID", "IDREF", "IDREFS", "ENTITY", "ENTITIES", "NMTOKEN", "NMTOKENS", "NOTATION", "a", "EMPTY", "LT", "g"};
+        for (String s : others) {
+            Check.faulty("<a>&" + s + ";</a>", 9, 3);
+            Check.faulty("<a b='&" + s + ";'/>", 9, 0);
+            Check.faulty(D + "%" + s + ";" + E, 9, 13);
+            Check.due(s, Check.formed(D + "<!ENTITY " + s + " 'xyz'>]><a>&" + s + ";</a>").characters(), 3);
+            Check.good(D + "<!ENTITY % " + s + " ' '>%" + s + ";" + E);
+        }
         Check.says("Fault 9: no such parameter entity was declared before");
         Check.faulty(D + "%p;<!ENTITY % p ''>" + E, 9, 13);
         Check.faulty(p + "%p; %q;" + E, 9, p.length() + 4);

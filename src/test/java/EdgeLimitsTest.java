@@ -20,6 +20,7 @@ public final class EdgeLimitsTest {
         depthOfModels();
         manyDeclarations();
         smallRooms();
+        fullRooms();
         longestProduct();
         longestThatGoesBack();
         Check.finish();
@@ -348,6 +349,63 @@ public final class EdgeLimitsTest {
         Check.due("prefixes", Check.spaces(x), "1:8");
         Check.due("instructions", Check.judge(x, "<?p?>".repeat(12) + "<a/>"), 1);
         Check.due("instructions", x.canonical(), 12 * 6 + 7);
+    }
+
+    /** The text, in a room that it fills. */
+    private static MarkupJudge filled(String text) {
+        MarkupJudge x = new MarkupJudge(text.codePointCount(0, text.length()), 0);
+        Check.due("filled", Check.judge(x, text), 1);
+        return x;
+    }
+
+    /** Nothing but ROOM is a limit to words and declarations: as many as its characters can hold. */
+    private static void fullRooms() {
+        Check.says("ROOM: the characters of the text, and for each time that an entity's text is gone through (at a reference to it) its length, together may be no more than ROOM.");
+        int first = 0x4E00;
+        StringBuilder list = new StringBuilder(D + "<!ATTLIST a b (A");
+        StringBuilder model = new StringBuilder(D + "<!ELEMENT a (#PCDATA");
+        StringBuilder entities = new StringBuilder(D);
+        StringBuilder elements = new StringBuilder(D);
+        StringBuilder attributes = new StringBuilder(D + "<!ATTLIST a");
+        StringBuilder tag = new StringBuilder("<a");
+        for (int i = 0; i < 300; i++) {
+            list.append('|').append((char) (first + 2 * i)).append('|').append((char) (first + 2 * i + 1));
+            model.append('|').append((char) (first + 2 * i)).append('|').append((char) (first + 2 * i + 1));
+            entities.append("<!ENTITY ").append((char) (first + i)).append(" ''>");
+            elements.append("<!ELEMENT ").append((char) (first + i)).append(" ANY>");
+            attributes.append(' ').append((char) (first + i)).append(" ID ''");
+            tag.append(' ').append((char) (first + i)).append(':').append((char) (first + 1000 + i)).append("='").append((char) (first + 2000 + i)).append("'");
+        }
+        Check.due("a list of names", Check.violations(filled(list + ") 'A'>]><a/>")), "5:1");
+        Check.due("a list of names", Check.violations(filled(list + "|A) 'A'>]><a/>")), "5:1 19:1");
+        Check.due("a group", Check.violations(filled(model + "|" + (char) first + ")*>]><b/>")), "1:1 3:1 5:1");
+        char last = (char) (first + 299);
+        Check.due("entities", filled(entities + "]><a>&" + last + ";&" + (char) first + ";</a>").characters(), 0);
+        MarkupJudge x = filled(elements + "]><" + last + "><" + (char) first + "/></" + last + ">");
+        Check.due("elements", Check.violations(x), "1:1");
+        x = filled(attributes + ">]><a/>");
+        Check.due("attributes", x.attributes(0), 300);
+        Check.due("attributes", Check.violations(x), "5:1 11:299 13:299 14:300 15:300");
+        x = filled(tag + "/>");
+        Check.due("prefixes", Check.spaces(x), "1:300");
+        Check.due("the last one", Check.part(x, 0, 299, 0), last + ":" + (char) (first + 1299));
+        Check.due("the last one", x.attribute(0, 299, 1, 0), first + 2299);
+        deepEntities();
+    }
+
+    private static void deepEntities() {
+        StringBuilder general = new StringBuilder(D);
+        StringBuilder parameter = new StringBuilder(D);
+        int first = 0x4E00;
+        for (int i = 0; i < 300; i++) {
+            general.append("<!ENTITY ").append((char) (first + i)).append(" '&").append((char) (first + i + 1)).append(";'>");
+            parameter.append("<!ENTITY % ").append((char) (first + i)).append(" '&#37;").append((char) (first + i + 1)).append(";'>");
+        }
+        char last = (char) (first + 300);
+        general.append("<!ENTITY ").append(last).append(" 'x'>]><a>&").append((char) first).append(";</a>");
+        parameter.append("<!ENTITY % ").append(last).append(" ''>%").append((char) first).append(";]><a/>");
+        exact(general.toString(), 300 * 3 + 1, general.length() - 7);
+        exact(parameter.toString(), 300 * 3, parameter.length() - 9);
     }
 
     /** A root with so many bytes of characters in it, in few characters. */

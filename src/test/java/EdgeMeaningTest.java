@@ -64,6 +64,15 @@ public final class EdgeMeaningTest {
                 Check.due(type + " by default [" + written[i] + "]", Check.part(x, 0, 0, 1), want);
             }
         }
+        // nothing is left, and a 32 stands before or behind it elsewhere
+        String f = "<!DOCTYPE a [<!ATTLIST a v NMTOKEN #FIXED '' w NMTOKENS #FIXED '  ' x CDATA ' '>]>";
+        String[] tags = {"<a v=''/> ", "<a v=' ' w=''/> ", "<a x=' ' v='' w=' '/> ", "<a/> "};
+        for (String s : tags) {
+            MarkupJudge x = Check.formed(f + s);
+            Check.due(s, x.violations(10), 0);
+            Check.due(s, Check.part(x, 0, 0, 1), s.startsWith("<a x") ? " " : "");
+            Check.due(s, Check.part(x, 0, 1, 1), "");
+        }
         Check.says("An attribute's TYPE is as declared, CDATA otherwise.");
         Check.due("not declared", Check.part(Check.formed("<!DOCTYPE a [<!ATTLIST b v ID #IMPLIED>]><a v=' x '/>"), 0, 0, 1), " x ");
         Check.due("no declaration", Check.part(Check.formed("<a v=' x '/>"), 0, 0, 1), " x ");

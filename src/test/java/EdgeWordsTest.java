@@ -236,7 +236,10 @@ public final class EdgeWordsTest {
         }
         String[] bad = {"'", "\"", "'x", "x'", "'x\"", "\"x'", "x", "", "'<'", "'&'", "'&x'", "'&;'", "'x' 'y'"};
         for (String s : bad) {
-            Check.faulty("<a b=" + s + "/>", 5, 0);
+            String[] behind = {"/>", "></a>", "/>/>", " ></a>", "x/>"};
+            for (String end : behind) {
+                Check.faulty("<a b=" + s + end, 5, 0);
+            }
             Check.faulty(D + "<!ATTLIST b c CDATA " + s + ">" + E, 5, 13);
             Check.faulty(D + "<!ATTLIST b c CDATA #FIXED " + s + ">" + E, 5, 13);
         }
