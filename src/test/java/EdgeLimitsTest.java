@@ -446,6 +446,14 @@ public final class EdgeLimitsTest {
         product("\n<?p q?>", "", "", "<?p q?>");
         product("<?p q?>\n", "<?p q?>", "", "");
         product("<p:b xmlns:p=\"u:1\"></p:b>", "", "<p:b xmlns:p='u:1'/>", "");
+        // what was declared where it was refused is declared the next time, too
+        for (int n = 262144; n < 262170; n++) {
+            MarkupJudge x = new MarkupJudge(0, 0);
+            Check.judge(x, root(n - 7 - 14, "").replace("<a>", "<a xmlns:p='u:1'>"));
+            for (int turn = 0; turn < 3; turn++) {
+                Check.due("again and again, " + n, x.canonical(), n > 262144 ? -4 : n);
+            }
+        }
         String over = root(262144, "");
         String[] others = {over.replace("<a>", "<p:a>").replace("</a>", "</p:a>"), over.replace("<a>", "<a xmlns='x'>")};
         int[] answers = {-2, -3};

@@ -22,6 +22,7 @@ public final class EdgeMeaningTest {
         mixedAndAny();
         wordsOfTypes();
         valuesOfTypes();
+        listsOfTypes();
         firstOnesCount();
         eachSpaceSoManyTimes();
         qnames();
@@ -252,6 +253,15 @@ public final class EdgeMeaningTest {
         times(6, 0, "<!ELEMENT z (#PCDATA|b|c)*>", "<z>" + all + "<c/><b/><c/></z><z/>");
         times(6, 1, "<!ELEMENT z (#PCDATA|b)*>", "<z><b/><c/></z>");
         times(6, 0, "<!ELEMENT z (#PCDATA|b)*>", "<z><b><c/></b></z>");
+        String[] groups = {"(#PCDATA|b|c)*", "( #PCDATA|b|c)*", "(#PCDATA |b|c)*", "(#PCDATA| b|c)*", "(#PCDATA|b |c)*", "(#PCDATA|b| c)*", "(#PCDATA|b|c )*", "(\n#PCDATA\n\n|\n\nb  |c\t)*",
+            "(#PCDATA|bb|b|c)*", "(#PCDATA|c|bb|b)*"};
+        for (String s : groups) {
+            times(6, 0, "<!ELEMENT z " + s + ">", "<z>x<b/><c/></z>");
+            times(6, 1, "<!ELEMENT z " + s + ">", "<z>x<b/><a/></z>");
+            times(6, 0, "<!ENTITY % q '<!ELEMENT z " + s + ">'>%q;", "<z>x<b/><c/></z>");
+            times(6, 1, "<!ENTITY % q '<!ELEMENT z " + s + ">'>%q;", "<z>x<b/><a/></z>");
+        }
+        times(3, 1, "<!ENTITY % q '<!ELEMENT z (#PCDATA|b|b)*>'>%q;", "<z><b/></z>");
         times(6, 0, "<!ELEMENT z ANY>", "<z>" + all + "<c/><b/><a/><z/></z>");
         MarkupJudge x = Check.formed("<!DOCTYPE a [<!ELEMENT a ANY><!ELEMENT b (#PCDATA|y)*>]><a><b><y/></b></a>");
         Check.due("in the group and not declared", Check.violations(x), "5:1");
@@ -289,6 +299,10 @@ public final class EdgeMeaningTest {
                 Check.due(k + ", " + types[t] + " [" + values[i] + "]", x.violations(k), words[i]);
                 x = Check.formed("<!DOCTYPE a [<!ATTLIST a t " + types[t] + " '" + values[i] + "'>]><a><a/></a>");
                 Check.due(k + " by default, " + types[t] + " [" + values[i] + "]", x.violations(k), 2 * words[i]);
+                x = Check.formed("<!DOCTYPE a [<!ATTLIST a t " + types[t] + " '" + values[i] + "'>]><a/>");
+                Check.due(k + " by default once, " + types[t] + " [" + values[i] + "]", x.violations(k), words[i]);
+                x = Check.formed("<!DOCTYPE a [<!ATTLIST b t " + types[t] + " '" + values[i] + "'>]><a/>");
+                Check.due(k + " of no element, " + types[t] + " [" + values[i] + "]", x.violations(k), 0);
             }
         }
     }
@@ -304,6 +318,31 @@ public final class EdgeMeaningTest {
                 Check.due("in a name " + c, Check.formed(d + "<a i='x" + s + "'/>").violations(8), r > 1 ? 1 : 0);
                 Check.due("a token " + c, Check.formed(d + "<a t='" + s + "'/>").violations(8), r > 1 ? 1 : 0);
             }
+        }
+    }
+
+    private static void listsOfTypes() {
+        Check.says("the others one of those listed");
+        String d = "<!NOTATION n SYSTEM ''><!NOTATION m SYSTEM ''><!NOTATION o SYSTEM ''>"
+            + "<!ATTLIST b x (1|2) #IMPLIED y (3|4|5) #IMPLIED x (9) #IMPLIED z NOTATION (n|m) #IMPLIED w (6) #IMPLIED><!ATTLIST c x (7|8) #IMPLIED z NOTATION (o) #IMPLIED>";
+        // constraint 18 is of c, which is EMPTY
+        String[] good = {"<b x='1'/><b x='2'/>", "<b y='3'/><b y='4'/><b y='5'/>", "<b z='n'/><b z='m'/>", "<b w='6'/>", "<c x='7'/><c x='8'/>", "<c z='o'/>", "<b x='2' y='5' z='m' w='6'/>"};
+        for (String s : good) {
+            times(18, 1, d, s);
+        }
+        String[] bad = {"<b x='3'/>", "<b x='9'/>", "<b x='12'/>", "<b y='2'/>", "<b y='6'/>", "<b y='n'/>", "<b z='5'/>", "<b z='o'/>", "<b w='5'/>", "<b w='7'/>", "<c x='1'/>", "<c x='6'/>",
+            "<c z='n'/>", "<b x=''/>"};
+        for (String s : bad) {
+            MarkupJudge x = Check.formed("<!DOCTYPE a [<!ELEMENT a ANY><!ELEMENT b ANY><!ELEMENT c EMPTY>" + d + "]><a>" + s + "</a>");
+            Check.due(s, Check.violations(x), "8:1 18:1");
+        }
+        // a list of one document has nothing of the lists of those before
+        MarkupJudge x = new MarkupJudge(80, 16);
+        for (int i = 0; i < 12; i++) {
+            Check.judge(x, "<!DOCTYPE a [<!ATTLIST a b (A|B|C|D|E|F|G|H|I|" + i + ") '" + i + "'>]><a b='" + i + "'/>");
+            Check.due("list " + i, Check.violations(x), "5:1");
+            Check.judge(x, "<!DOCTYPE a [<!ATTLIST a b (A|B|C|D|E|F|G|H|I|" + i + ") 'Z'>]><a b='Y'/>");
+            Check.due("list " + i, Check.violations(x), "5:1 8:1 15:1");
         }
     }
 
