@@ -275,6 +275,14 @@ public final class EdgeCallsTest {
             Check.due(text, x.fault(), i + 1);
             Check.due(text, x.place(), places[i]);
             Check.due(text + " asked again", x.fault() * 100 + x.place(), (i + 1) * 100 + places[i]);
+            x.feed(1, 2, 3, 4, 5);
+            x.change(0, 1);
+            x.end(3);
+            x.canonical();
+            x.back();
+            x.steady();
+            Check.due(text + " stays", x.fault(), i + 1);
+            Check.due(text + " stays", x.place(), places[i]);
             Check.due("none", Check.judge(x, "<a/>"), 1);
             Check.due("none", x.fault(), 0);
             Check.due("none", x.place(), NONE);

@@ -74,6 +74,8 @@ public final class EdgeMeaningTest {
             Check.due(s, Check.part(x, 0, 0, 1), s.startsWith("<a x") ? " " : "");
             Check.due(s, Check.part(x, 0, 1, 1), "");
         }
+        Check.due("behind it", Check.part(Check.formed(f + "<a v='' y='xyz'/> "), 0, 1, 1), "xyz");
+        Check.due("behind it", Check.part(Check.formed(f + "<a y='x ' v='  ' z='yz'/> "), 0, 2, 1), "yz");
         Check.says("An attribute's TYPE is as declared, CDATA otherwise.");
         Check.due("not declared", Check.part(Check.formed("<!DOCTYPE a [<!ATTLIST b v ID #IMPLIED>]><a v=' x '/>"), 0, 0, 1), " x ");
         Check.due("no declaration", Check.part(Check.formed("<a v=' x '/>"), 0, 0, 1), " x ");
@@ -231,6 +233,11 @@ public final class EdgeMeaningTest {
                 row(("(b,(c)" + often[k] + ",b)"), "<b/>" + row + "<b/>", good);
             }
         }
+        String entity = "<!DOCTYPE a [<!ENTITY % q '<!ELEMENT a (b,c?)><!ELEMENT b EMPTY><!ELEMENT c EMPTY>'>%q;]>";
+        Check.due("in an entity's text", Check.violations(Check.formed(entity + "<a><b/><c/></a>")), "");
+        Check.due("in an entity's text", Check.violations(Check.formed(entity + "<a><b/></a>")), "");
+        Check.due("in an entity's text", Check.violations(Check.formed(entity + "<a><c/></a>")), "6:1");
+        Check.due("in an entity's text", Check.formed(entity.replace("(b,c?)", "(b?,b)") + "<a/>").violations(4), 1);
         String[] orders = {"<b/><c/>", "<c/><b/>", "<b/>", "<c/>", "", "<b/><c/><b/>", "<b/><b/>"};
         boolean[] both = {true, false, false, false, false, false, false};
         boolean[] one = {false, false, true, true, false, false, false};
