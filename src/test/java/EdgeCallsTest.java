@@ -28,6 +28,7 @@ public final class EdgeCallsTest {
         canonicalAnswers();
         outEdges();
         backEdges();
+        backLeaves();
         steadyEver();
         refusedChangesNothing();
         withoutADocument();
@@ -526,6 +527,28 @@ public final class EdgeCallsTest {
         Check.due("behind it", x.end(28), 28);
         Check.due("a judge() that finds no document leaves it", x.judge(), 2);
         Check.due("eight", x.back(), 8);
+    }
+
+    /** Without what came in, which is other bytes then. */
+    private static String withoutBytes(MarkupJudge x) {
+        String told = Check.state(x);
+        return told.substring(0, told.indexOf(" in "));
+    }
+
+    private static void backLeaves() {
+        Check.says("The product, which stays, as does the document at hand");
+        for (int i = 0; i < TEXTS.length; i++) {
+            MarkupJudge x = full(TEXTS[i]);
+            String before = withoutBytes(x);
+            Check.due("back()", x.back(), 7);
+            Check.due("all but the bytes stays", withoutBytes(x), before);
+            int answer = x.canonical();
+            x = full(TEXTS[i]);
+            Check.due("canonical() is the same", x.canonical(), answer);
+            before = withoutBytes(x);
+            x.back();
+            Check.due("also of its own product", withoutBytes(x), before);
+        }
     }
 
     private static void steadyEver() {

@@ -23,6 +23,7 @@ public final class EdgeItemsTest {
         sectionsAndRuns();
         declarationOnce();
         entityTexts();
+        valuesThroughEntities();
         withinItself();
         notDeclared();
         beganElsewhere();
@@ -432,6 +433,31 @@ public final class EdgeItemsTest {
         Check.due("counted", x.counted(), text.length() + 2 * "&#38;&lt;&lt;&f;&#x3e;".length());
     }
 
+    private static void valuesThroughEntities() {
+        Check.says("the text of an entity is gone through in the same way: in it a < is fault 11, and a & that begins no reference is fault 5");
+        String[] texts = {"&#38;", "&#38; ", "x&#38; y", "&#38;;", "&#38;&#38;", "&#38;1;", "&#38;-;", "&#38;x", "&#38;lt", "&#38;lt ;", "&#38;#;", "&#38;#x;", "&#38;#xg;", "&#38;#3", "&#38;#X20;",
+            "&#60;", "<", "x<y", "<b/>", "<!---->", "<![CDATA[]]>", "&#38;#0;", "&#38;#x110000;", "&#38;x;"};
+        int[] inValue = {5, 5, 5, 5, 5, 5, 5, 5, 5, 5, 5, 5, 5, 5, 5, 11, 11, 11, 11, 11, 11, 12, 12, 9};
+        int[] inRoot = {5, 5, 5, 5, 5, 5, 5, 5, 5, 5, 5, 5, 5, 5, 5, 5, 5, 5, 0, 0, 0, 12, 12, 9};
+        for (int i = 0; i < texts.length; i++) {
+            String d = D + "<!ENTITY e '" + texts[i] + "'><!ENTITY f '[&e;]'>";
+            String[] names = {"e", "f"};
+            for (String name : names) {
+                String r = "&" + name + ";";
+                stands(d + "]>", "<a b='" + r + "'/>", "", inValue[i]);
+                stands(d + "]><a>", "<b c='1' d='2" + r + "'/>", "</a>", inValue[i]);
+                stands(d, "<!ATTLIST a b CDATA '" + r + "'>", E, inValue[i]);
+                stands(d, "<!ATTLIST a b ID #FIXED \"" + r + "\">", E, inValue[i]);
+                stands(d + "]><a>", r, "</a>", inRoot[i]);
+                stands(d, "", E, 0);
+            }
+        }
+        // what is a reference there, quotes and > are not in the way
+        MarkupJudge x = Check.formed(D + "<!ENTITY e '&#38;lt;&#38;#60;&#38;#38;\">&#39;]]>%'>".replace("%", "&#37;") + "]><a b='&e;' c=\"&e;\"/>");
+        Check.due("in a value", Check.part(x, 0, 0, 1), "<<&\">']]>%");
+        Check.due("in a value", Check.part(x, 0, 1, 1), "<<&\">']]>%");
+    }
+
     private static void withinItself() {
         Check.says("10: it stands, by whatever ways, within its own text");
         int[] ways = {1, 2, 3, 50};
@@ -509,6 +535,10 @@ public final class EdgeItemsTest {
             String before = e.replace("~", s);
             int fault = s.equals("&f;") ? 7 : 14;
             Check.faulty(before + "&e;</b></a>", fault, before.length());
+        }
+        String[] others = {"<aa></a>", "<a></aa>", "<a></b>", "<a:a></a>", "<a></a:a>", "<\u00e9></e>"};
+        for (String s : others) {
+            Check.faulty(s, 7, s.indexOf("</"));
         }
         String before = e.replace("~", "");
         Check.faulty(before + "<b>&f;</a>", 14, before.length() + 3);
