@@ -61,9 +61,9 @@ public final class BytesTest {
     }
 
     private static void feedHasALimit() {
-        MarkupJudge x = new MarkupJudge(0, 0);
-        for (int i = 0; i < 3276; i++) {
-            Check.due("feed " + i, Check.feedThrows(x), false);
+        MarkupJudge x = Check.filled(65460);
+        for (int n = 65460; n < 65520; n += 20) {
+            Check.due("feed behind " + n, Check.feedThrows(x), false);
         }
         Check.due("65520 and 20 throw", Check.feedThrows(x), true);
         Check.due("nothing changed", x.end(65517), 65520);

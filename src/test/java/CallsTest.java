@@ -10,7 +10,7 @@ public final class CallsTest {
     }
 
     public static void main(String[] args) {
-        for (int run = 0; run < 20; run++) {
+        for (int run = 0; run < 40; run++) {
             new Run().go();
         }
         Check.finish();
@@ -27,9 +27,11 @@ public final class CallsTest {
         private int count = 0;
         private byte[] product = new byte[0];
         private int document = -1;
+        private int calls = 0;
 
+        /** Each turn takes ten calls at most, and an object is used for 512. */
         void go() {
-            for (int call = 0; call < 500; call++) {
+            while (calls <= 502) {
                 switch (next(8)) {
                     case 0:
                         feed();
@@ -53,7 +55,8 @@ public final class CallsTest {
                         judge(next(TEXTS.length));
                         break;
                     default:
-                        Check.due("steady()", x.steady() ? 1 : 0, 1);
+                        calls++;
+                        Check.due("steady()", x.steady(), true);
                 }
             }
         }
@@ -64,6 +67,7 @@ public final class CallsTest {
                 five[i] = next(1 << 16) << 16 | next(1 << 16);
             }
             boolean thrown = false;
+            calls++;
             try {
                 x.feed(five[0], five[1], five[2], five[3], five[4]);
             } catch (IllegalStateException e) {
@@ -79,6 +83,7 @@ public final class CallsTest {
         private void end(int n) {
             boolean thrown = false;
             int answer = 0;
+            calls++;
             try {
                 answer = x.end(n);
             } catch (IllegalArgumentException e) {
@@ -93,6 +98,7 @@ public final class CallsTest {
 
         private void change(int i, int b) {
             boolean refused = i < 0 || i >= count || b < 0 || b > 255;
+            calls++;
             Check.due("change()", x.change(i, b), refused ? -1 : in[i] & 255);
             if (!refused) {
                 in[i] = (byte) b;
@@ -100,6 +106,7 @@ public final class CallsTest {
         }
 
         private void back() {
+            calls += 2;
             Check.due("back()", x.back(), product.length == 0 ? -1 : product.length);
             if (product.length > 0) {
                 System.arraycopy(product, 0, in, 0, product.length);
@@ -114,14 +121,17 @@ public final class CallsTest {
                 product = Check.utf8(PRODUCTS[document]);
                 want = product.length;
             }
+            calls++;
             Check.due("canonical()", x.canonical(), want);
         }
 
         private void out(int i) {
+            calls++;
             Check.due("out()", x.out(i), i < 0 || i >= product.length ? -1 : product[i] & 255);
         }
 
         private void judge(int which) {
+            calls += 4 + TEXTS[which].length() / 20;
             Check.feed(x, Check.utf8(TEXTS[which]));
             Check.due("judge()", x.judge(), ANSWERS[which] == -1 ? 2 : 1);
             document = which;

@@ -1,3 +1,4 @@
+import java.io.ByteArrayOutputStream;
 import java.nio.charset.StandardCharsets;
 
 /** What all tests share: ways to ask a judge, and a count of the answers that are not as due. */
@@ -127,6 +128,15 @@ final class Check {
         return x;
     }
 
+    /** A new judge to which so many bytes, more than can be fed in 512 calls, have come by back(). */
+    static MarkupJudge filled(int n) {
+        int rest = n - 7;
+        MarkupJudge x = formed("<!DOCTYPE a [<!ENTITY e '" + "x".repeat(1000) + "'>]><a>" + "&e;".repeat(rest / 1000) + "x".repeat(rest % 1000) + "</a>");
+        due("product of " + n, x.canonical(), n);
+        due("back() of " + n, x.back(), n);
+        return x;
+    }
+
     static void faulty(byte[] row, String told, int fault, int place) {
         faulty(ready(row.length), row, told, fault, place);
     }
@@ -153,9 +163,7 @@ final class Check {
     static String violations(MarkupJudge x) {
         StringBuilder told = new StringBuilder();
         for (int k = 0; k < 23; k++) {
-            if (x.violations(k) != 0) {
-                told.append(told.length() > 0 ? " " : "").append(k).append(':').append(x.violations(k));
-            }
+            tell(told, k, x.violations(k));
         }
         return told.toString();
     }
@@ -163,25 +171,33 @@ final class Check {
     static String spaces(MarkupJudge x) {
         StringBuilder told = new StringBuilder();
         for (int k = 0; k < 6; k++) {
-            if (x.spaces(k) != 0) {
-                told.append(told.length() > 0 ? " " : "").append(k).append(':').append(x.spaces(k));
-            }
+            tell(told, k, x.spaces(k));
         }
         return told.toString();
     }
 
+    private static void tell(StringBuilder told, int k, int many) {
+        if (many != 0) {
+            told.append(told.length() > 0 ? " " : "").append(k).append(':').append(many);
+        }
+    }
+
     static String name(MarkupJudge x, int e) {
         StringBuilder told = new StringBuilder();
-        for (int i = 0; x.name(e, i) != MarkupJudge.NONE; i++) {
-            told.appendCodePoint(x.name(e, i));
+        int c = x.name(e, 0);
+        for (int i = 1; c != MarkupJudge.NONE; i++) {
+            told.appendCodePoint(c);
+            c = x.name(e, i);
         }
         return told.toString();
     }
 
     static String part(MarkupJudge x, int e, int a, int what) {
         StringBuilder told = new StringBuilder();
-        for (int i = 0; x.attribute(e, a, what, i) != MarkupJudge.NONE; i++) {
-            told.appendCodePoint(x.attribute(e, a, what, i));
+        int c = x.attribute(e, a, what, 0);
+        for (int i = 1; c != MarkupJudge.NONE; i++) {
+            told.appendCodePoint(c);
+            c = x.attribute(e, a, what, i);
         }
         return told.toString();
     }
@@ -228,15 +244,13 @@ final class Check {
     }
 
     static byte[] product(MarkupJudge x) {
-        int n = 0;
-        while (x.out(n) != MarkupJudge.NONE) {
-            n++;
+        ByteArrayOutputStream row = new ByteArrayOutputStream();
+        int b = x.out(0);
+        while (b != MarkupJudge.NONE) {
+            row.write(b);
+            b = x.out(row.size());
         }
-        byte[] row = new byte[n];
-        for (int i = 0; i < n; i++) {
-            row[i] = (byte) x.out(i);
-        }
-        return row;
+        return row.toByteArray();
     }
 
     /** The canonical bytes as text, or the number that was answered in place of them. */

@@ -557,6 +557,12 @@ public final class EdgeCallsTest {
         Check.due("new", x.steady(), true);
         for (String s : TEXTS) {
             Check.judge(x, s);
+            x.canonical();
+            Check.due("behind others, " + s, x.steady(), true);
+        }
+        for (String s : TEXTS) {
+            x = new MarkupJudge(64, 16);
+            Check.judge(x, s);
             Check.due(s, x.steady(), true);
             x.canonical();
             Check.due(s, x.steady(), true);
@@ -569,6 +575,7 @@ public final class EdgeCallsTest {
             Check.due(s, x.steady(), true);
         }
         // canonical bytes that the judge itself has no room for
+        x = new MarkupJudge(64, 16);
         Check.judge(x, "<a>" + "&#62;".repeat(11) + "</a>");
         Check.due("longer than the text", x.canonical(), 51);
         Check.judge(x, "<a b='" + "\"".repeat(50) + "'/>");

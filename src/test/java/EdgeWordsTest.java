@@ -312,15 +312,15 @@ public final class EdgeWordsTest {
 
     private static void longWords() {
         Check.says("name characters");
-        String name = "n" + "-".repeat(9000);
+        String name = "n" + "-".repeat(4000);
         MarkupJudge x = Check.formed("<" + name + "/>");
-        Check.due("the last one of a long name", x.name(0, 9000), '-');
-        Check.due("behind it", x.name(0, 9001), -1);
-        x = Check.formed("<a " + name + "='" + "v".repeat(9000) + "w'/>");
-        Check.due("of an attribute", x.attribute(0, 0, 0, 9000), '-');
-        Check.due("behind it", x.attribute(0, 0, 0, 9001), -1);
-        Check.due("of a value", x.attribute(0, 0, 1, 9000), 'w');
-        Check.due("behind it", x.attribute(0, 0, 1, 9001), -1);
+        Check.due("the last one of a long name", x.name(0, 4000), '-');
+        Check.due("behind it", x.name(0, 4001), -1);
+        x = Check.formed("<a " + name + "='" + "v".repeat(4000) + "w'/>");
+        Check.due("of an attribute", x.attribute(0, 0, 0, 4000), '-');
+        Check.due("behind it", x.attribute(0, 0, 0, 4001), -1);
+        Check.due("of a value", x.attribute(0, 0, 1, 4000), 'w');
+        Check.due("behind it", x.attribute(0, 0, 1, 4001), -1);
         Check.faulty("<a " + name + "='' " + name + "=''/>", 8, 0);
         Check.good("<a " + name + "='' " + name + "x=''/>");
     }

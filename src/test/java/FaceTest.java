@@ -120,22 +120,37 @@ public final class FaceTest {
     }
 
     private static void madeByCalls() {
-        MarkupJudge x = new MarkupJudge(0, 0);
-        byte[] row = Check.utf8("<!DOCTYPE a [<!ELEMENT a (#PCDATA|b)*><!ELEMENT b (a?,b*)><!ENTITY e '<b/>'><!ATTLIST a c ID 'x'>]><a d='&lt;'>&e;</a>");
-        int most = row.length;
         com.sun.management.ThreadMXBean bean = (com.sun.management.ThreadMXBean) java.lang.management.ManagementFactory.getThreadMXBean();
+        if (!bean.isThreadAllocatedMemorySupported()) {
+            return;
+        }
+        byte[] row = Check.utf8("<!DOCTYPE a [<!ELEMENT a (#PCDATA|b)*><!ELEMENT b (a?,b*)><!ENTITY e '<b/>'><!ATTLIST a c ID 'x'>]><a d='&lt;'>&e;</a>  ");
+        Check.due("in twenties", row.length % 20, 0);
+        int[] fours = new int[row.length / 4];
+        for (int i = 0; i < row.length; i++) {
+            fours[i / 4] |= (row[i] & 255) << 24 - i % 4 * 8;
+        }
+        MarkupJudge[] judges = new MarkupJudge[40];
+        for (int i = 0; i < judges.length; i++) {
+            judges[i] = new MarkupJudge(1000, 100);
+        }
         long before = 0;
-        for (int i = 0; i < 600; i++) {
-            if (i == 100 && bean.isThreadAllocatedMemorySupported()) {
-                before = bean.getCurrentThreadAllocatedBytes();
+        for (int i = 0; i < judges.length; i++) {
+            before = i == 10 ? bean.getCurrentThreadAllocatedBytes() : before;
+            callOften(judges[i], fours);
+        }
+        long made = bean.getCurrentThreadAllocatedBytes() - before;
+        Check.due("bytes made by calls: " + made, made < 4096, true);
+        Check.due("they have judged", judges[39].elements(), 2);
+    }
+
+    private static void callOften(MarkupJudge x, int[] fours) {
+        for (int turn = 0; turn < 20; turn++) {
+            for (int i = 0; i + 4 < fours.length; i += 5) {
+                x.feed(fours[i], fours[i + 1], fours[i + 2], fours[i + 3], fours[i + 4]);
             }
-            for (int k = 0; k < most; k += 20) {
-                x.feed(0, 0, 0, 0, 0);
-            }
-            for (int k = 0; k < most; k++) {
-                x.change(k, row[k]);
-            }
-            x.end(most);
+            x.change(0, '<');
+            x.end(4 * fours.length);
             x.judge();
             x.canonical();
             x.back();
@@ -143,9 +158,11 @@ public final class FaceTest {
             x.out(0);
             x.name(0, 0);
             x.attribute(0, 0, 0, 0);
+            x.attributes(0);
+            x.parent(0);
+            x.violations(0);
+            x.spaces(0);
             x.steady();
         }
-        long made = bean.isThreadAllocatedMemorySupported() ? bean.getCurrentThreadAllocatedBytes() - before : 0;
-        Check.due("bytes made by calls: " + made, made < 4096 ? 1 : 0, 1);
     }
 }

@@ -1,4 +1,10 @@
-/** The limits: ROOM and NODES of promise 1, those of models, of the product and of back(), and what is deep or long. */
+import java.nio.charset.StandardCharsets;
+import java.util.Arrays;
+
+/**
+ * The limits: ROOM and NODES of promise 1, those of models, of the product and of back(), and what is deep or long; within
+ * 512 calls of an object, but for what is said at beyondItsCalls().
+ */
 public final class LimitsTest {
     private static final int NONE = MarkupJudge.NONE;
 
@@ -20,6 +26,7 @@ public final class LimitsTest {
         longProduct();
         productsThatGoBack();
         longDefaults();
+        beyondItsCalls();
         Check.finish();
     }
 
@@ -46,7 +53,7 @@ public final class LimitsTest {
     private static void whichRoom() {
         int[] given = {63, 64, 98304, 98305, 0, -1, Integer.MAX_VALUE, Integer.MIN_VALUE};
         int[] taken = {98304, 64, 98304, 98304, 98304, 98304, 98304, 98304};
-        String d = "<!DOCTYPE a [<!ENTITY e '" + "x".repeat(9000) + "'><!ENTITY f '&e;&e;&e;&e;&e;'>]>";
+        String d = "<!DOCTYPE a [<!ENTITY e '" + "x".repeat(900) + "'><!ENTITY f '&e;&e;&e;&e;&e;'>]><a>" + "&f;".repeat(21);
         for (int i = 0; i < given.length; i++) {
             MarkupJudge x = new MarkupJudge(given[i], 0);
             Check.judge(x, "<a>" + "x".repeat(57) + "</a>");
@@ -54,14 +61,13 @@ public final class LimitsTest {
             Check.judge(x, "<a>" + "x".repeat(58) + "</a>");
             Check.due("65 in a room of " + given[i], x.fault(), taken[i] == 64 ? 4 : 0);
             if (taken[i] > 64) {
-                String text = d + "<a>&f;" + "&e;".repeat(3);
-                int rest = taken[i] - text.length() - 4 - 5 * 3 - 8 * 9000;
-                Check.due("there is a rest", rest > 9000 && rest < 65536 ? 1 : 0, 1);
-                Check.judge(x, text + "x".repeat(rest) + "</a>");
+                int rest = taken[i] - d.length() - 4 - 21 * (15 + 5 * 900);
+                Check.due("there is a rest", rest > 900 && rest < 4000, true);
+                Check.judge(x, d + "x".repeat(rest) + "</a>");
                 Check.due("all in a room of " + given[i], x.fault(), 0);
                 Check.due("all in a room of " + given[i], x.counted(), taken[i]);
-                Check.due("characters", x.characters(), 72000 + rest);
-                Check.judge(x, text + "x".repeat(rest + 1) + "</a>");
+                Check.due("characters", x.characters(), 21 * 4500 + rest);
+                Check.judge(x, d + "x".repeat(rest + 1) + "</a>");
                 Check.due("one more in a room of " + given[i], x.fault(), 4);
             }
         }
@@ -209,9 +215,9 @@ public final class LimitsTest {
         Check.good(d + "(".repeat(60) + "b" + ")".repeat(60) + ">]><a/>");
         Check.faulty(d + "(".repeat(61) + "b" + ")".repeat(61) + ">]><a/>", 4, 13);
         Check.faulty(d + "(".repeat(61) + "b" + ")".repeat(60) + ">]><a/>", 5, 13);
-        Check.faulty(d + "(".repeat(20000) + "b" + ")".repeat(20000) + ">]><a/>", 4, 13);
-        Check.faulty(d + "(".repeat(20000) + "b" + ")*".repeat(20001) + ">]><a/>", 5, 13);
-        Check.faulty(d + "(".repeat(65000), 5, 13);
+        Check.faulty(d + "(".repeat(3000) + "b" + ")".repeat(3000) + ">]><a/>", 4, 13);
+        Check.faulty(d + "(".repeat(3000) + "b" + ")*".repeat(3001) + ">]><a/>", 5, 13);
+        Check.faulty(d + "(".repeat(9900), 5, 13);
         MarkupJudge again = new MarkupJudge(0, 0);
         Check.faulty(again, Check.utf8(d + "(".repeat(61) + "b" + ")".repeat(61) + ">]><a/>"), "too deep", 4, 13);
         Check.due("the next one", Check.judge(again, d + "(b)>]><a/>"), 1);
@@ -222,21 +228,21 @@ public final class LimitsTest {
     }
 
     private static void deepElements() {
-        String up = "<a>".repeat(9000);
-        String down = "</a>".repeat(9000);
+        String up = "<a>".repeat(1300);
+        String down = "</a>".repeat(1300);
         MarkupJudge x = Check.formed(up + down);
-        Check.due("parent of the deepest", x.parent(8999), 8998);
-        Check.due("canonical", x.canonical(), 63000);
-        Check.due("back", x.back(), 63000);
+        Check.due("parent of the deepest", x.parent(1299), 1298);
+        Check.due("canonical", x.canonical(), 9100);
+        Check.due("back", x.back(), 9100);
         Check.due("judge", x.judge(), 1);
-        Check.due("elements", x.elements(), 9000);
-        Check.faulty(up, 6, 27000);
-        Check.faulty(up + down + "</a>", 6, 63000);
+        Check.due("elements", x.elements(), 1300);
+        Check.faulty(up, 6, 3900);
+        Check.faulty(up + down + "</a>", 6, 9100);
     }
 
     /** Entities within entities, as many as there are. */
     private static void deepEntities() {
-        int n = 2000;
+        int n = 300;
         StringBuilder general = new StringBuilder("<!DOCTYPE a [<!ENTITY e0 'x'>");
         StringBuilder parameter = new StringBuilder("<!DOCTYPE a [<!ENTITY % p0 '<!ELEMENT a ANY>'>");
         for (int i = 1; i <= n; i++) {
@@ -252,31 +258,32 @@ public final class LimitsTest {
 
     private static void manyNames() {
         StringBuilder list = new StringBuilder("<!DOCTYPE a [<!ATTLIST a b (A");
-        for (int c = 0x4E00; c < 0x4E00 + 16000; c++) {
+        for (int c = 0x4E00; c < 0x4E00 + 2400; c++) {
             list.append('|').append((char) c);
         }
         String text = list + "|A) #IMPLIED>]><a b='\u4E01'/>";
-        byte[] row = ("\ufeff" + text).getBytes(java.nio.charset.StandardCharsets.UTF_16BE);
-        Check.due("it fits", row.length <= 65520 ? 1 : 0, 1);
+        byte[] row = ("\ufeff" + text).getBytes(StandardCharsets.UTF_16BE);
         MarkupJudge x = new MarkupJudge(0, 0);
         Check.due("many tokens", Check.judge(x, row), 1);
         Check.due("many tokens", Check.violations(x), "5:1 19:1");
         StringBuilder tag = new StringBuilder("<a");
-        for (int c = 0x4E00; c < 0x4E00 + 6000; c++) {
+        for (int c = 0x4E00; c < 0x4E00 + 900; c++) {
             tag.append(' ').append((char) c).append("=''");
         }
-        row = ("\ufeff" + tag + "/>").getBytes(java.nio.charset.StandardCharsets.UTF_16BE);
+        row = ("\ufeff" + tag + "/>").getBytes(StandardCharsets.UTF_16BE);
+        x = new MarkupJudge(0, 0);
         Check.due("many attributes", Check.judge(x, row), 1);
-        Check.due("many attributes", x.attributes(0), 6000);
-        Check.due("canonical", x.canonical(), 6000 * (1 + 3 + 3) + 7);
-        row = ("\ufeff" + tag + " \u4E00=''/>").getBytes(java.nio.charset.StandardCharsets.UTF_16BE);
+        Check.due("many attributes", x.attributes(0), 900);
+        Check.due("canonical", x.canonical(), 900 * (1 + 3 + 3) + 7);
+        row = ("\ufeff" + tag + " \u4E00=''/>").getBytes(StandardCharsets.UTF_16BE);
+        x = new MarkupJudge(0, 0);
         Check.due("one of them twice", Check.judge(x, row), 2);
         Check.due("one of them twice", x.fault(), 8);
     }
 
     /** 262144 bytes are a product, 262145 are none. */
     private static void longProduct() {
-        String d = "<!DOCTYPE a [<!ENTITY e '" + "&#62;".repeat(1000) + "'>]><a>" + "&e;".repeat(65) + "&#62;".repeat(533);
+        String d = "<!DOCTYPE a [<!ENTITY e '" + ">".repeat(999) + "'>]><a>" + "&e;".repeat(65) + ">".repeat(598);
         MarkupJudge x = Check.formed("<b/>");
         Check.due("a product", x.canonical(), 7);
         Check.judge(x, d + "xxxxx</a>");
@@ -296,7 +303,8 @@ public final class LimitsTest {
         Check.due("judge()", x.judge(), 1);
         Check.due("a product again", x.canonical(), 7);
         // refused while namespaces are open: the next one is not harmed
-        String p = "<!DOCTYPE a [<!ENTITY e '" + "&#62;".repeat(2000) + "'>]><a xmlns='u:1' xmlns:p='u:2'><b>" + "&e;".repeat(34) + "</b></a>";
+        String p = "<!DOCTYPE a [<!ENTITY e '" + ">".repeat(2000) + "'>]><a xmlns='u:1' xmlns:p='u:2'><b>" + "&e;".repeat(34) + "</b></a>";
+        x = new MarkupJudge(0, 0);
         Check.judge(x, p);
         Check.due("too long", x.canonical(), -4);
         Check.due("too long", x.canonical(), -4);
@@ -322,9 +330,9 @@ public final class LimitsTest {
 
     /** Values by default that are long and come often are written, and looked at, no oftener than needed. */
     private static void longDefaults() {
-        String d = "<!DOCTYPE a [<!ATTLIST b xmlns CDATA 'u:" + "x".repeat(9000) + "' r IDREFS '" + "x ".repeat(9000) + "'>]><a>";
-        MarkupJudge x = Check.formed(d + "<b/>".repeat(5000) + "</a>");
-        Check.due("words", x.violations(12), 5000 * 9000);
+        String d = "<!DOCTYPE a [<!ATTLIST b xmlns CDATA 'u:" + "x".repeat(1000) + "' r IDREFS '" + "x ".repeat(1000) + "'><!ENTITY e '" + "<b/>".repeat(500) + "'>]><a>";
+        MarkupJudge x = Check.formed(d + "&e;".repeat(10) + "</a>");
+        Check.due("words", x.violations(12), 5000 * 1000);
         Check.due("too long", x.canonical(), -4);
         for (int i = 0; i < 100; i++) {
             x.canonical();
@@ -332,5 +340,39 @@ public final class LimitsTest {
         x = Check.formed(d + "</a>");
         Check.due("none came", x.violations(12), 0);
         Check.due("short", x.canonical(), 7);
+    }
+
+    /**
+     * What an object answers behind its 512th call is free, but no call may ever throw by itself or fail to end: rows that
+     * can't be fed in fewer calls, as deep, long and many as 65536 bytes allow.
+     */
+    private static void beyondItsCalls() {
+        String d = "<!DOCTYPE a [";
+        StringBuilder entities = new StringBuilder(d + "<!ENTITY e0 '<b/>'>");
+        for (int i = 1; i <= 2000; i++) {
+            entities.append("<!ENTITY e").append(i).append(" '&e").append(i - 1).append(";'>");
+        }
+        StringBuilder tokens = new StringBuilder(d + "<!ATTLIST a b (A");
+        StringBuilder attributes = new StringBuilder("<a");
+        for (int c = 0; c < 16000; c++) {
+            tokens.append('|').append((char) (0x4E00 + c));
+            attributes.append(c < 9000 ? " " + (char) (0x4E00 + c) + "=''" : "");
+        }
+        String[] texts = {"<a>".repeat(9000) + "</a>".repeat(9000), "<a>".repeat(21000), "<a/>".repeat(16000), "<a>" + "<b/>".repeat(16380) + "</a>",
+            d + "<!ELEMENT a " + "(".repeat(20000) + "b" + ")".repeat(20000) + ">]><a/>", d + "<!ELEMENT a " + "(".repeat(65000), entities + "]><a>&e2000;</a>",
+            tokens + ") #IMPLIED>]><a b='\u4E01'/>", attributes + "/>", "<a>" + "&#62;".repeat(13000) + "</a>", "%".repeat(65500), "<a>" + "&".repeat(65500),
+            d + "<!ATTLIST b c IDREFS '" + "x ".repeat(9000) + "'>]><a>" + "<b/>".repeat(10000) + "</a>"};
+        MarkupJudge x = new MarkupJudge(0, 0);
+        for (String text : texts) {
+            byte[] narrow = Check.utf8(text);
+            byte[] wide = ("\ufeff" + text).getBytes(StandardCharsets.UTF_16BE);
+            byte[] row = narrow.length <= wide.length ? narrow : wide;
+            int answer = Check.judge(x, Arrays.copyOf(row, Math.min(65520, row.length)));
+            Check.due("an answer", answer >= 0 && answer <= 2, true);
+            x.canonical();
+            x.back();
+            x.judge();
+            x.name(x.elements() - 1, 0);
+        }
     }
 }
