@@ -1,11 +1,18 @@
 import java.io.ByteArrayOutputStream;
+import java.io.IOException;
+import java.io.UncheckedIOException;
 import java.nio.charset.StandardCharsets;
+import java.nio.file.Files;
+import java.nio.file.Path;
 
 /** What all tests share: ways to ask a judge, and a count of the answers that are not as due. */
 final class Check {
+    private static final String DOCUMENT = "../shared/DOC.md";
+
     private static int asked = 0;
     private static int wrong = 0;
     private static String said = "";
+    private static String document;
     private static MarkupJudge common;
     private static int calls = 0;
 
@@ -15,6 +22,33 @@ final class Check {
     /** The words of the document that what is asked from here on rests on; told with each answer that is not as due. */
     static void says(String... words) {
         said = " (the document: " + String.join(" .. ", words) + ")";
+        for (String part : words) {
+            due("the document says: " + part, document().isEmpty() || plain(document()).contains(plain(part)), true);
+        }
+    }
+
+    /** The same words, however they are broken into lines. */
+    static String plain(String text) {
+        return text.replaceAll("\\s+", " ").trim();
+    }
+
+    /** The document, or nothing where it does not lie beside the project: then nobody looks for words in it. */
+    static String document() {
+        if (document == null) {
+            boolean isThere = Files.exists(Path.of(DOCUMENT));
+            document = isThere ? read(DOCUMENT) : "";
+            System.out.print(isThere ? "" : "no " + DOCUMENT + ": its words are not compared\n");
+        }
+        return document;
+    }
+
+    /** A file of the project. */
+    static String read(String path) {
+        try {
+            return Files.readString(Path.of(path));
+        } catch (IOException e) {
+            throw new UncheckedIOException(e);
+        }
     }
 
     static void due(String what, long got, long want) {

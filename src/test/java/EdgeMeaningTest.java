@@ -82,7 +82,7 @@ public final class EdgeMeaningTest {
     }
 
     private static void noDeclaration() {
-        Check.says("for 0 the others are none. 0 there is no declaration (1, then).");
+        Check.says("for 0 the others are none.", "0 there is no declaration (1, then).");
         String[] without = {"<a/>", "<a b=''><c/>x</a>", "<?p?><a/>", "<?xml version='1.0'?><!--<!DOCTYPE a>--><a/>"};
         for (String s : without) {
             Check.due(s, Check.violations(Check.formed(s)), "0:1");
