@@ -18,6 +18,7 @@ public final class EdgeCallsTest {
         judgeUsesUp();
         judgeAnswers();
         judgeBehindAnother();
+        judgeBehindMany();
         faultAndPlace();
         violationsEdges();
         spacesEdges();
@@ -259,6 +260,27 @@ public final class EdgeCallsTest {
                 Check.due(texts[second] + " behind " + texts[first], answer + " " + Check.state(x) + " " + x.canonical(), alone[second]);
             }
         }
+    }
+
+    /** In the smallest room, where what one took and did not leave would soon be missing for the next. */
+    private static void judgeBehindMany() {
+        Check.says("The bytes that came in are used up.", "there is no document at hand then");
+        String d = "<!DOCTYPE a[";
+        String[] texts = {d + "<!ENTITY e# 'x'>]><a>&e#;&e#;</a>", d + "<!ENTITY % p# ''>%p#;%p#;]><a/>", d + "<!ELEMENT a# ANY>]><a#/>", d + "<!ATTLIST a b# ID 'i#'>]><a/>",
+            d + "<!ATTLIST a b (t#|u#|v#|w#) 'u#'>]><a/>", d + "<!NOTATION n# SYSTEM ''>]><a/>", "<a b#='v#' c#='w#' d#='x#'/>", "<a#><b#/><?c#?><d#></d#></a#>", "<p#:a xmlns:p#='u:#'/>",
+            "<a#><b#><c#>x", "<a b#='' b#=''/>", d + "<!ENTITY e '&e;'>]><a>#&e;</a>", d + "<!ENTITY e '&#38;f;'>]><a b='&e;#'/>", d + "<!ELEMENT a (b#,(c#|d#)*)>]><a/>", "<a>" + "<b/>".repeat(12) + "#</a>"};
+        for (String text : texts) {
+            MarkupJudge x = new MarkupJudge(64, 16);
+            for (int i = 10; i < 40; i++) {
+                String next = text.replace("&#38;", "&?38;").replace("#", Integer.toString(i)).replace("&?38;", "&#38;");
+                Check.due(next + " behind others", brief(x, next), brief(new MarkupJudge(64, 16), next));
+            }
+        }
+    }
+
+    private static String brief(MarkupJudge x, String text) {
+        int answer = Check.judge(x, text);
+        return answer + " " + x.fault() + " " + x.place() + " " + x.violations(8) + " " + x.elements() + " " + x.characters() + " " + x.counted() + " " + x.name(0, 1) + " " + x.canonical();
     }
 
     private static void faultAndPlace() {
